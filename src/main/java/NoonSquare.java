@@ -994,7 +994,6 @@ public final class NoonSquare {
         void copyFrom(Land other) {
             places = other.places;
             roads = other.roads;
-            System.arraycopy(other.names, 0, names, 0, MOST_PLACES);
             System.arraycopy(other.noon, 0, noon, 0, MOST_PLACES);
             System.arraycopy(other.order, 0, order, 0, MOST_PLACES);
             System.arraycopy(other.table, 0, table, 0, MOST_PLACES * MOST_PLACES);
@@ -1091,7 +1090,6 @@ public final class NoonSquare {
 
         void copyFrom(Rules other) {
             units = other.units;
-            length = other.length;
             System.arraycopy(other.start, 0, start, 0, MOST_PEOPLE);
             System.arraycopy(other.end, 0, end, 0, MOST_PEOPLE);
             System.arraycopy(other.steps, 0, steps, 0, MOST_STEPS);
@@ -1179,7 +1177,7 @@ public final class NoonSquare {
             late = 0;
         }
 
-        /** The names of things and people are needed while reading alone, and stay behind. */
+        /** Names, and where rules end on the row of steps, are needed while reading alone, and stay behind. */
         void copyFrom(Valley other) {
             land.copyFrom(other.land);
             rules.copyFrom(other.rules);

@@ -18,6 +18,8 @@ public final class TextTest {
         rules();
         within();
         units();
+        steps();
+        again();
         due.end();
     }
 
@@ -251,6 +253,13 @@ public final class TextTest {
         due.fault(P + "(1;", 2, e + 2);
         due.fault(P + "();", 2, e + 1);
         due.fault(P + "1);", 2, e + 1);
+        due.fault(P + "1 or;", 2, e + 4);
+        due.fault(P + "1<;", 2, e + 2);
+        due.fault(P + "not;", 2, e + 3);
+        due.fault(P + "1-;", 2, e + 2);
+        due.fault(P + "1*;", 2, e + 2);
+        due.fault(P + "(;", 2, e + 1);
+        due.fault(P + "or;", 2, e);
         due.fault(P + "1and 1;", 1, e);
         due.fault(P + "10000;", 1, e);
         due.fits(P + "(1)and(1)or not(1);", 1);
@@ -283,5 +292,40 @@ public final class TextTest {
         due.fault(P + sum + "+1;person q at a craft 1 force 1 hard 1 stands far;", 2, e + 160 + 44);
         NoonSquare x = Due.valley(P + "(1+(far))*2;person q at a craft 1 force 1 hard 1 stands not mine;");
         due.is("about(9)", x.about(9), 6);
+    }
+
+    /** As many steps as a text has room for: a not seven times ahead of each unit. */
+    private static void steps() {
+        StringBuilder e = new StringBuilder("0");
+        for (int i = 0; i < 44; i++) {
+            e.append(" or not not not not not not not 1");
+        }
+        NoonSquare x = Due.valley(P + e + " or 1;thing t at a worth 1 wear 0 heavy 0;");
+        due.is("the last unit counts", x.asks(0, 0), 1);
+        x = Due.valley(P + e + ";thing t at a worth 1 wear 0 heavy 0;");
+        due.is("none is above 0", x.asks(0, 0), 0);
+        e.setLength(0);
+        for (int i = 0; i < 40; i++) {
+            e.append(i == 0 ? "" : "+").append("(not not not not not not 0)");
+        }
+        x = Due.valley(P + e + ";thing t at a worth 1 wear 0 heavy 0;");
+        due.is("80 units with not", x.about(9), 80);
+        due.is("not an even number of times", x.asks(0, 0), 0);
+    }
+
+    private static void again() {
+        NoonSquare x = new NoonSquare();
+        StringBuilder e = new StringBuilder("7");
+        for (int i = 1; i < 80; i++) {
+            e.append("*1");
+        }
+        for (int i = 0; i < 12; i++) {
+            Due.feed(x, "law force;late 5;" + AB + "road a b minutes 5;person p at a craft 1 force 1 hard 1 stands " + e
+                + ";thing t at a worth 1 wear 0 heavy 0;");
+            due.is("the same valley again", x.valley(), 1);
+            due.is("its roads", x.about(1), 1);
+            due.is("its units", x.about(9), 80);
+            due.is("its rule", x.asks(0, 0), 7);
+        }
     }
 }
