@@ -247,11 +247,12 @@ public final class NoonSquare {
     }
 
     public int stands(int i, int person) {
-        if (i < 0 || !isPerson(person)) {
-            return NO_STANDING;
-        }
+        // Whether there is such a standing is not known of a valley that is spent, whatever was asked.
         if (standings.isSpent()) {
             return SPENT;
+        }
+        if (i < 0 || !isPerson(person)) {
+            return NO_STANDING;
         }
         return standings.seek(i) ? standings.choice[person] : NO_STANDING;
     }

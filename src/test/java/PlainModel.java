@@ -768,11 +768,11 @@ final class PlainModel {
     }
 
     int stands(int i, int p) {
-        if (i < 0 || !isPerson(p)) {
-            return -3;
-        }
         if (spent()) {
             return -2;
+        }
+        if (i < 0 || !isPerson(p)) {
+            return -3;
         }
         List<int[]> rows = restRows();
         if (i >= rows.size()) {

@@ -200,6 +200,20 @@ public final class WouldBeTest {
             due.is("8 to the power of 5: rest(" + what + ")", x.rest(what), -2);
         }
         due.is("stands(0, 0)", x.stands(0, 0), -2);
+        standsWhenSpent(x);
+    }
+
+    /** A standing that is none, by its number or by its person, is not told from another where all is spent. */
+    private static void standsWhenSpent(NoonSquare x) {
+        int[] none = {-1, 20001, Integer.MIN_VALUE, Integer.MAX_VALUE};
+        for (int i : none) {
+            due.is("spent: stands(" + i + ", 0)", x.stands(i, 0), -2);
+            due.is("spent: stands(0, " + i + ")", x.stands(0, i), -2);
+            due.is("spent: stands(" + i + ", " + i + ")", x.stands(i, i), -2);
+        }
+        due.is("spent: stands(0, 5), behind the last person", x.stands(0, 5), -2);
+        due.is("spent: rest(3) asks for nothing", x.rest(3), -1);
+        due.is("spent: rest(-1) asks for nothing", x.rest(-1), -1);
     }
 
     private static void made() {
