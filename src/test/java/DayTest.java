@@ -24,17 +24,8 @@ public final class DayTest {
         due.end();
     }
 
-    private static String thing(String name, String place, int worth, int wear, int heavy) {
-        return "thing " + name + " at " + place + " worth " + worth + " wear " + wear + " heavy " + heavy + ";";
-    }
-
-    private static String person(String name, String place, int craft, int force, int hard, String e) {
-        return "person " + name + " at " + place + " craft " + craft + " force " + force + " hard " + hard + " stands " + e
-            + ";";
-    }
-
     private static void use() {
-        NoonSquare x = Due.valley("place a noon 0;" + thing("s", "a", 37, 13, 5) + person("x", "a", 4, 9, 7, "0"));
+        NoonSquare x = Due.valley("place a noon 0;" + Lines.thing("s", "a", 37, 13, 5) + Lines.person("x", "a", 4, 9, 7, "0"));
         due.is("a day of nobody's things", x.run(1), 0);
         x.give(0, 0);
         due.is("37 * 100 * 7 / 100", x.run(1), 259);
@@ -43,7 +34,7 @@ public final class DayTest {
         due.is("left", x.thing(0, 1), 90);
         due.is("made in all", x.person(0, 1), 505);
         due.is("two days at once", x.run(2), 37 * 90 * 7 / 100 + 37 * 85 * 7 / 100);
-        x = Due.valley("place a noon 0;" + thing("s", "a", 10, 20, 1) + person("x", "a", 0, 0, 9, "0"));
+        x = Due.valley("place a noon 0;" + Lines.thing("s", "a", 10, 20, 1) + Lines.person("x", "a", 0, 0, 9, "0"));
         x.give(0, 0);
         x.run(5);
         due.is("left of 100 - 5 * 18", x.thing(0, 1), 10);
@@ -54,8 +45,8 @@ public final class DayTest {
     }
 
     private static void mend() {
-        NoonSquare x = Due.valley("place a noon 0;" + thing("s", "a", 1, 20, 1) + thing("t", "a", 1, 20, 1)
-            + thing("u", "a", 1, 0, 1) + person("x", "a", 9, 0, 5, "0"));
+        NoonSquare x = Due.valley("place a noon 0;" + Lines.thing("s", "a", 1, 20, 1) + Lines.thing("t", "a", 1, 20, 1)
+            + Lines.thing("u", "a", 1, 0, 1) + Lines.person("x", "a", 9, 0, 5, "0"));
         x.give(0, 0);
         x.give(1, 0);
         x.give(2, 0);
@@ -66,15 +57,15 @@ public final class DayTest {
         x.run(1);
         due.is("now the first only wears", x.thing(0, 1), 89);
         due.is("and the least is mended", x.thing(1, 1), 89);
-        x = Due.valley("place a noon 0;" + thing("s", "a", 1, 10, 1) + person("x", "a", 9, 0, 5, "0"));
+        x = Due.valley("place a noon 0;" + Lines.thing("s", "a", 1, 10, 1) + Lines.person("x", "a", 9, 0, 5, "0"));
         x.give(0, 0);
         x.run(1);
         due.is("100 at most", x.thing(0, 1), 100);
     }
 
     private static void food() {
-        String text = "place a noon 0;thing f at a worth 10 wear 20 heavy 0 food;" + person("x", "a", 0, 0, 5, "1");
-        NoonSquare x = Due.valley(text + person("y", "a", 0, 0, 0, "0"));
+        String text = "place a noon 0;thing f at a worth 10 wear 20 heavy 0 food;" + Lines.person("x", "a", 0, 0, 5, "1");
+        NoonSquare x = Due.valley(text + Lines.person("y", "a", 0, 0, 0, "0"));
         x.run(1);
         due.is("taken", x.thing(0, 0), 0);
         due.is("crowd", x.thing(0, 2), 1);
@@ -85,7 +76,7 @@ public final class DayTest {
         due.is("it wore by that", x.thing(0, 1), 90);
         due.is("nobody aims at it", x.person(0, 3), -1);
         due.is("nor makes by it", x.run(3), 0);
-        x = Due.valley("place a noon 0;thing f at a worth 10 wear 20 heavy 1 food;" + person("y", "a", 0, 0, 0, "0"));
+        x = Due.valley("place a noon 0;thing f at a worth 10 wear 20 heavy 1 food;" + Lines.person("y", "a", 0, 0, 0, "0"));
         x.give(0, 0);
         x.run(2);
         due.is("who does not use does not eat", x.thing(0, 3), 0);
@@ -93,8 +84,8 @@ public final class DayTest {
     }
 
     private static void heavyThings() {
-        NoonSquare x = Due.valley("place a noon 0;" + thing("s", "a", 1, 0, 0) + thing("t", "a", 1, 0, 30)
-            + thing("u", "a", 1, 0, 40) + person("x", "a", 0, 29, 0, "heavy=30") + person("y", "a", 0, 40, 0, "heavy=40"));
+        NoonSquare x = Due.valley("place a noon 0;" + Lines.thing("s", "a", 1, 0, 0) + Lines.thing("t", "a", 1, 0, 30)
+            + Lines.thing("u", "a", 1, 0, 40) + Lines.person("x", "a", 0, 29, 0, "heavy=30") + Lines.person("y", "a", 0, 40, 0, "heavy=40"));
         x.give(0, 0);
         x.give(1, 1);
         x.give(2, 0);
@@ -104,7 +95,7 @@ public final class DayTest {
         due.is("some by it, none takes: stays whose it is", x.thing(1, 0), 1);
         due.is("the crowd counts him who can't take", x.thing(1, 2), 1);
         due.is("force like heavy takes", x.thing(2, 0), 1);
-        x = Due.valley("place a noon 0;" + thing("t", "a", 1, 0, 1) + person("x", "a", 0, 29, 0, "0"));
+        x = Due.valley("place a noon 0;" + Lines.thing("t", "a", 1, 0, 1) + Lines.person("x", "a", 0, 29, 0, "0"));
         x.give(0, 0);
         x.run(2);
         due.is("heavy, none by it: stays whose it is", x.thing(0, 0), 0);
@@ -114,8 +105,8 @@ public final class DayTest {
     private static final String TWO = "place a noon 9;place b noon 9;place c noon 9;road a b minutes 7;road b c minutes 3;";
 
     private static void near() {
-        NoonSquare x = Due.valley(TWO + thing("s", "b", 1, 0, 0) + person("x", "a", 0, 90, 0, "1")
-            + person("y", "c", 0, 50, 0, "1") + person("z", "c", 0, 70, 0, "1"));
+        NoonSquare x = Due.valley(TWO + Lines.thing("s", "b", 1, 0, 0) + Lines.person("x", "a", 0, 90, 0, "1")
+            + Lines.person("y", "c", 0, 50, 0, "1") + Lines.person("z", "c", 0, 70, 0, "1"));
         x.run(1);
         due.is("who walked least, of like ones the first", x.thing(0, 0), 1);
         due.is("the crowd", x.thing(0, 2), 3);
@@ -124,8 +115,8 @@ public final class DayTest {
     }
 
     private static void force() {
-        NoonSquare x = Due.valley("law force;" + TWO + thing("s", "b", 1, 0, 60) + person("x", "c", 0, 50, 0, "1")
-            + person("y", "a", 0, 70, 0, "1") + person("z", "b", 0, 70, 0, "1"));
+        NoonSquare x = Due.valley("law force;" + TWO + Lines.thing("s", "b", 1, 0, 60) + Lines.person("x", "c", 0, 50, 0, "1")
+            + Lines.person("y", "a", 0, 70, 0, "1") + Lines.person("z", "b", 0, 70, 0, "1"));
         x.run(1);
         due.is("whose force is most, of like ones the first", x.thing(0, 0), 1);
     }
@@ -135,9 +126,9 @@ public final class DayTest {
     }
 
     private static void lot() {
-        NoonSquare x = Due.valley("law lot;" + TWO + thing("s", "b", 1, 0, 60) + thing("t", "b", 1, 0, 0)
-            + person("o", "b", 0, 99, 0, "worth*0") + person("x", "b", 0, 59, 0, "heavy") + person("y", "b", 0, 60, 0, "heavy")
-            + person("z", "b", 0, 61, 0, "heavy") + person("v", "b", 0, 62, 0, "heavy"));
+        NoonSquare x = Due.valley("law lot;" + TWO + Lines.thing("s", "b", 1, 0, 60) + Lines.thing("t", "b", 1, 0, 0)
+            + Lines.person("o", "b", 0, 99, 0, "worth*0") + Lines.person("x", "b", 0, 59, 0, "heavy") + Lines.person("y", "b", 0, 60, 0, "heavy")
+            + Lines.person("z", "b", 0, 61, 0, "heavy") + Lines.person("v", "b", 0, 62, 0, "heavy"));
         boolean[] had = new boolean[5];
         int w = -77;
         x.seed(w);
@@ -151,15 +142,15 @@ public final class DayTest {
             had[owner] = true;
         }
         due.yes("each has it some day", had[2] && had[3] && had[4]);
-        x = Due.valley("law lot;place a noon 0;" + thing("s", "a", 1, 0, 0) + person("x", "a", 0, 0, 0, "1"));
+        x = Due.valley("law lot;place a noon 0;" + Lines.thing("s", "a", 1, 0, 0) + Lines.person("x", "a", 0, 0, 0, "1"));
         x.run(3);
         due.is("one alone draws no lot", x.about(8), 1);
         due.is("and has it", x.thing(0, 0), 0);
     }
 
     private static void lateBell() {
-        String text = "place a noon 5;place b noon 0;road a b minutes 70;" + thing("s", "b", 1, 0, 0)
-            + person("x", "a", 0, 0, 0, "1");
+        String text = "place a noon 5;place b noon 0;road a b minutes 70;" + Lines.thing("s", "b", 1, 0, 0)
+            + Lines.person("x", "a", 0, 0, 0, "1");
         NoonSquare x = Due.valley(text);
         x.run(5);
         due.is("too far if the bell is never late", x.thing(0, 0), -1);
@@ -181,8 +172,8 @@ public final class DayTest {
         x = Due.valley("late 39;" + text);
         x.run(1);
         due.is("38 is below 39", x.about(10), 1);
-        x = Due.valley("late 100;place a noon 5;place b noon 0;road a b minutes 71;" + thing("s", "b", 1, 0, 0)
-            + person("x", "a", 0, 0, 0, "1"));
+        x = Due.valley("late 100;place a noon 5;place b noon 0;road a b minutes 71;" + Lines.thing("s", "b", 1, 0, 0)
+            + Lines.person("x", "a", 0, 0, 0, "1"));
         x.run(1);
         due.is("71 minutes are too far even so", x.thing(0, 0), -1);
     }
@@ -190,9 +181,9 @@ public final class DayTest {
     private static void manyNoons() {
         String places = "place c noon 20;place a noon 0;place b noon 10;place d noon 20;";
         String roads = "road a b minutes 10;road b c minutes 11;road b d minutes 10;road c d minutes 1;";
-        NoonSquare x = Due.valley(places + roads + thing("s", "a", 9, 0, 0) + thing("t", "b", 9, 0, 0)
-            + thing("u", "c", 50, 0, 0) + thing("v", "d", 1, 0, 0) + person("x", "a", 0, 0, 1, "100-far-noon")
-            + person("y", "d", 0, 0, 0, "(noon=20)*worth"));
+        NoonSquare x = Due.valley(places + roads + Lines.thing("s", "a", 9, 0, 0) + Lines.thing("t", "b", 9, 0, 0)
+            + Lines.thing("u", "c", 50, 0, 0) + Lines.thing("v", "d", 1, 0, 0) + Lines.person("x", "a", 0, 0, 1, "100-far-noon")
+            + Lines.person("y", "d", 0, 0, 0, "(noon=20)*worth"));
         x.run(1);
         due.is("he has the first", x.thing(0, 0), 0);
         due.is("and goes on to the second, in ten minutes", x.thing(1, 0), 0);
@@ -201,9 +192,9 @@ public final class DayTest {
         due.is("there he is", x.person(0, 0), 3);
         due.is("who stood at noon 20 does not go on to another noon 20", x.person(1, 0), 0);
         due.is("he uses all three on the next day", x.run(1), 9 + 9 + 1);
-        x = Due.valley("place a noon 0;place b noon 10;road a b minutes 5;" + thing("s", "a", 9, 0, 0)
-            + thing("t", "b", 9, 0, 0) + person("x", "a", 0, 0, 0, "noon=0") + person("y", "a", 0, 0, 0, "noon=10")
-            + person("z", "b", 0, 0, 0, "1"));
+        x = Due.valley("place a noon 0;place b noon 10;road a b minutes 5;" + Lines.thing("s", "a", 9, 0, 0)
+            + Lines.thing("t", "b", 9, 0, 0) + Lines.person("x", "a", 0, 0, 0, "noon=0") + Lines.person("y", "a", 0, 0, 0, "noon=10")
+            + Lines.person("z", "b", 0, 0, 0, "1"));
         x.run(1);
         due.is("the near one", x.thing(0, 0), 0);
         due.is("both walked 5 to it now, of like ones the first", x.thing(1, 0), 1);
@@ -211,21 +202,21 @@ public final class DayTest {
     }
 
     private static void aims() {
-        NoonSquare x = Due.valley("place a noon 0;" + thing("s", "a", 5, 0, 0) + thing("t", "a", 7, 0, 0)
-            + thing("u", "a", 7, 0, 0) + person("x", "a", 0, 0, 0, "worth") + person("y", "a", 0, 0, 0, "worth-7")
-            + person("z", "a", 0, 0, 0, "8-worth"));
+        NoonSquare x = Due.valley("place a noon 0;" + Lines.thing("s", "a", 5, 0, 0) + Lines.thing("t", "a", 7, 0, 0)
+            + Lines.thing("u", "a", 7, 0, 0) + Lines.person("x", "a", 0, 0, 0, "worth") + Lines.person("y", "a", 0, 0, 0, "worth-7")
+            + Lines.person("z", "a", 0, 0, 0, "8-worth"));
         due.is("the most, of like ones the first", x.person(0, 3), 1);
         due.is("above 0", x.person(1, 3), -1);
         due.is("another rule", x.person(2, 3), 0);
         x = Due.valley("place a noon 0;place b noon 59;place c noon 0;road a b minutes 60;road a c minutes 61;"
-            + thing("s", "b", 5, 0, 0) + thing("t", "c", 9, 0, 0) + person("x", "a", 0, 0, 0, "worth")
-            + person("y", "b", 0, 0, 0, "worth"));
+            + Lines.thing("s", "b", 5, 0, 0) + Lines.thing("t", "c", 9, 0, 0) + Lines.person("x", "a", 0, 0, 0, "worth")
+            + Lines.person("y", "b", 0, 0, 0, "worth"));
         due.is("c is too far", x.person(0, 3), 0);
         due.is("b is where he is", x.person(1, 3), 0);
-        x = Due.valley("place a noon 0;place c noon 0;road a c minutes 60;" + thing("t", "c", 9, 0, 0)
-            + person("x", "a", 0, 0, 0, "worth"));
+        x = Due.valley("place a noon 0;place c noon 0;road a c minutes 60;" + Lines.thing("t", "c", 9, 0, 0)
+            + Lines.person("x", "a", 0, 0, 0, "worth"));
         due.is("60 minutes are not too far", x.person(0, 3), 0);
-        x = Due.valley("place a noon 0;" + thing("s", "a", 5, 20, 1) + person("x", "a", 0, 0, 9, "left-90"));
+        x = Due.valley("place a noon 0;" + Lines.thing("s", "a", 5, 20, 1) + Lines.person("x", "a", 0, 0, 9, "left-90"));
         x.give(0, 0);
         due.is("use and mend left out", x.person(0, 3), 0);
         x.run(1);
@@ -245,7 +236,7 @@ public final class DayTest {
     }
 
     private static void runs() {
-        NoonSquare x = Due.valley("place a noon 0;" + thing("s", "a", 1, 0, 0) + person("x", "a", 0, 0, 1, "1"));
+        NoonSquare x = Due.valley("place a noon 0;" + Lines.thing("s", "a", 1, 0, 0) + Lines.person("x", "a", 0, 0, 1, "1"));
         due.is("run(-1)", x.run(-1), -1);
         due.is("run(101)", x.run(101), -1);
         due.is("run(0)", x.run(0), 0);
@@ -264,7 +255,7 @@ public final class DayTest {
     }
 
     private static void things() {
-        NoonSquare x = Due.valley("place a noon 0;place b noon 0;" + thing("s", "b", 44, 3, 2));
+        NoonSquare x = Due.valley("place a noon 0;place b noon 0;" + Lines.thing("s", "b", 44, 3, 2));
         due.is("owner", x.thing(0, 0), -1);
         due.is("left", x.thing(0, 1), 100);
         due.is("crowd", x.thing(0, 2), 0);
@@ -278,8 +269,8 @@ public final class DayTest {
     }
 
     private static void people() {
-        NoonSquare x = Due.valley("place a noon 0;place b noon 0;" + thing("s", "b", 44, 3, 2) + thing("t", "a", 44, 3, 2)
-            + person("x", "b", 0, 0, 0, "0"));
+        NoonSquare x = Due.valley("place a noon 0;place b noon 0;" + Lines.thing("s", "b", 44, 3, 2) + Lines.thing("t", "a", 44, 3, 2)
+            + Lines.person("x", "b", 0, 0, 0, "0"));
         due.is("place", x.person(0, 0), 1);
         due.is("made", x.person(0, 1), 0);
         due.is("things", x.person(0, 2), 0);
@@ -294,7 +285,7 @@ public final class DayTest {
     }
 
     private static void gifts() {
-        NoonSquare x = Due.valley("place a noon 0;thing f at a worth 1 wear 1 heavy 0 food;" + person("x", "a", 0, 0, 1, "0"));
+        NoonSquare x = Due.valley("place a noon 0;thing f at a worth 1 wear 1 heavy 0 food;" + Lines.person("x", "a", 0, 0, 1, "0"));
         due.yes("give(0, 0)", x.give(0, 0));
         due.is("his", x.thing(0, 0), 0);
         due.yes("give(0, -1)", x.give(0, -1));
@@ -310,7 +301,7 @@ public final class DayTest {
     }
 
     private static void chips() {
-        NoonSquare x = Due.valley("place a noon 0;" + thing("s", "a", 44, 0, 1) + person("x", "a", 0, 0, 1, "worth"));
+        NoonSquare x = Due.valley("place a noon 0;" + Lines.thing("s", "a", 44, 0, 1) + Lines.person("x", "a", 0, 0, 1, "worth"));
         due.is("chip(0, 0)", x.chip(0, 0), 44);
         due.is("chip(0, 45)", x.chip(0, 45), -1);
         due.is("chip(0, -1)", x.chip(0, -1), -1);
@@ -325,8 +316,8 @@ public final class DayTest {
     }
 
     private static int asked(String e, int days, boolean his) {
-        NoonSquare x = Due.valley("place a noon 3;place b noon 7;road a b minutes 11;" + thing("s", "b", 5, 10, 2)
-            + person("x", "a", 4, 6, 1, e) + person("y", "b", 0, 0, 1, "1"));
+        NoonSquare x = Due.valley("place a noon 3;place b noon 7;road a b minutes 11;" + Lines.thing("s", "b", 5, 10, 2)
+            + Lines.person("x", "a", 4, 6, 1, e) + Lines.person("y", "b", 0, 0, 1, "1"));
         x.run(days);
         x.give(0, his ? 0 : days > 0 ? 1 : -1);
         return x.asks(0, 0);
@@ -350,19 +341,19 @@ public final class DayTest {
         due.is("noon", asked("noon", 0, false), 7);
         due.is("wrapping", asked("9999*9999*9999", 0, false), 9999 * 9999 * 9999);
         due.is("9999", asked("9999", 0, false), 9999);
-        NoonSquare x = Due.valley("place a noon 0;" + thing("s", "a", 5, 0, 0) + person("x", "a", 0, 0, 1, "1000*1000*(0-1)"));
+        NoonSquare x = Due.valley("place a noon 0;" + Lines.thing("s", "a", 5, 0, 0) + Lines.person("x", "a", 0, 0, 1, "1000*1000*(0-1)"));
         due.is("-1000000 as an answer", x.asks(0, 0), -1000000);
         due.is("asks(1, 0)", x.asks(1, 0), -1000000);
         due.is("asks(-1, 0)", x.asks(-1, 0), -1000000);
         due.is("asks(0, 1)", x.asks(0, 1), -1000000);
         due.is("asks(0, -1)", x.asks(0, -1), -1000000);
-        x = Due.valley("place a noon 0;place b noon 0;thing f at b worth 5 wear 0 heavy 0 food;" + thing("s", "a", 1, 0, 0)
-            + person("x", "a", 0, 0, 1, "far+crowd+mine"));
+        x = Due.valley("place a noon 0;place b noon 0;thing f at b worth 5 wear 0 heavy 0 food;" + Lines.thing("s", "a", 1, 0, 0)
+            + Lines.person("x", "a", 0, 0, 1, "far+crowd+mine"));
         x.give(0, 0);
         x.run(1);
         due.is("an eaten one, too, and no way", x.asks(0, 0), 999);
-        x = Due.valley("place a noon 0;" + thing("s", "a", 5, 0, 0) + person("x", "a", 0, 0, 1, "1+crowd*10")
-            + person("y", "a", 0, 0, 1, "1"));
+        x = Due.valley("place a noon 0;" + Lines.thing("s", "a", 5, 0, 0) + Lines.person("x", "a", 0, 0, 1, "1+crowd*10")
+            + Lines.person("y", "a", 0, 0, 1, "1"));
         x.run(1);
         due.is("crowd as it is now", x.asks(0, 0), 21);
     }

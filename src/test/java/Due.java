@@ -1,20 +1,29 @@
 import java.nio.charset.StandardCharsets;
+import java.util.function.Supplier;
+import java.util.function.ToIntFunction;
 
 /** Counts answers that are not as due, and feeds texts. */
 final class Due {
     private final String name;
     private int wrong;
     private int asked;
+    private String sentence = "";
 
     Due(String name) {
         this.name = name;
+    }
+
+    /** The document's words that the answers from here on are held against. */
+    void quote(String words) {
+        sentence = " [" + words + "]";
+        yes("the document says so", Document.says(words));
     }
 
     void is(String call, long got, long want) {
         asked++;
         if (got != want) {
             wrong++;
-            System.out.println(name + ": " + call + " answered " + got + ", due is " + want);
+            System.out.println(name + sentence + ": " + call + " answered " + got + ", due is " + want);
         }
     }
 
@@ -35,12 +44,31 @@ final class Due {
         is("fault(1) of [" + text + "]", x.fault(1), place);
     }
 
+    /** The fault of a text at the mark ^, which is no part of it. */
+    void marked(int fault, String text) {
+        fault(text.replace("^", ""), fault, text.indexOf('^'));
+    }
+
     void fits(String text, int people) {
         NoonSquare x = new NoonSquare();
         feed(x, text);
         is("valley of [" + text + "]", x.valley(), people);
         is("fault(0) of [" + text + "]", x.fault(0), 0);
         is("fault(1) of [" + text + "]", x.fault(1), NoonSquare.NONE);
+    }
+
+    /** A call that is refused: its answer, and that an object that lived alike without it is the same to the end. */
+    void refused(String call, Supplier<NoonSquare> life, ToIntFunction<NoonSquare> refusal, int want) {
+        NoonSquare x = life.get();
+        is(call, refusal.applyAsInt(x), want);
+        leaves(call, life, refusal);
+    }
+
+    /** That an object is the same to the end with the call and without it. */
+    void leaves(String call, Supplier<NoonSquare> life, ToIntFunction<NoonSquare> asking) {
+        NoonSquare x = life.get();
+        asking.applyAsInt(x);
+        yes(call + " changes nothing", State.toTheEnd(x).equals(State.toTheEnd(life.get())));
     }
 
     void end() {

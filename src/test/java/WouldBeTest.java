@@ -20,24 +20,15 @@ public final class WouldBeTest {
         due.end();
     }
 
-    private static String thing(String name, String place, int worth, int wear, int heavy) {
-        return "thing " + name + " at " + place + " worth " + worth + " wear " + wear + " heavy " + heavy + ";";
-    }
-
-    private static String person(String name, String place, int craft, int force, int hard, String e) {
-        return "person " + name + " at " + place + " craft " + craft + " force " + force + " hard " + hard + " stands " + e
-            + ";";
-    }
-
     private static void chance(NoonSquare x, int thing, int person, int upper, int lower) {
         due.is("chance(" + thing + ", " + person + ", 0)", x.chance(thing, person, 0), upper);
         due.is("chance(" + thing + ", " + person + ", 1)", x.chance(thing, person, 1), lower);
     }
 
     private static void chances() {
-        NoonSquare x = Due.valley("law lot;place a noon 0;" + thing("s", "a", 1, 0, 0) + thing("t", "a", 1, 0, 50)
-            + thing("u", "a", 1, 0, 50) + person("x", "a", 0, 0, 1, "heavy=0") + person("y", "a", 0, 0, 1, "heavy=0")
-            + person("z", "a", 0, 0, 1, "heavy=0") + person("v", "a", 0, 20, 1, "heavy=50"));
+        NoonSquare x = Due.valley("law lot;place a noon 0;" + Lines.thing("s", "a", 1, 0, 0) + Lines.thing("t", "a", 1, 0, 50)
+            + Lines.thing("u", "a", 1, 0, 50) + Lines.person("x", "a", 0, 0, 1, "heavy=0") + Lines.person("y", "a", 0, 0, 1, "heavy=0")
+            + Lines.person("z", "a", 0, 0, 1, "heavy=0") + Lines.person("v", "a", 0, 20, 1, "heavy=50"));
         x.give(1, 2);
         chance(x, 0, 0, 1, 3);
         chance(x, 0, 2, 1, 3);
@@ -52,8 +43,8 @@ public final class WouldBeTest {
         due.is("chance(-1, 0, 0)", x.chance(-1, 0, 0), -1);
         due.is("chance(0, 0, 2)", x.chance(0, 0, 2), -1);
         due.is("chance(0, 0, -1)", x.chance(0, 0, -1), -1);
-        x = Due.valley("place a noon 0;" + thing("s", "a", 1, 20, 0) + person("x", "a", 0, 0, 5, "left=90")
-            + person("y", "a", 9, 0, 0, "left=99"));
+        x = Due.valley("place a noon 0;" + Lines.thing("s", "a", 1, 20, 0) + Lines.person("x", "a", 0, 0, 5, "left=90")
+            + Lines.person("y", "a", 9, 0, 0, "left=99"));
         chance(x, 0, -1, 1, 1);
         x.give(0, 0);
         chance(x, 0, 0, 1, 1);
@@ -61,7 +52,7 @@ public final class WouldBeTest {
         x.give(0, 1);
         chance(x, 0, 1, 1, 1);
         chance(x, 0, 0, 0, 1);
-        x = Due.valley("place a noon 0;" + thing("s", "a", 1, 0, 0) + person("x", "a", 0, 0, 0, "day=3"));
+        x = Due.valley("place a noon 0;" + Lines.thing("s", "a", 1, 0, 0) + Lines.person("x", "a", 0, 0, 0, "day=3"));
         x.run(1);
         chance(x, 0, 0, 0, 1);
         x.run(1);
@@ -69,8 +60,8 @@ public final class WouldBeTest {
     }
 
     private static void chanceOfFood() {
-        NoonSquare x = Due.valley("place a noon 0;thing f at a worth 1 wear 1 heavy 0 food;" + person("x", "a", 0, 0, 1, "1")
-            + person("y", "a", 0, 0, 0, "0"));
+        NoonSquare x = Due.valley("place a noon 0;thing f at a worth 1 wear 1 heavy 0 food;" + Lines.person("x", "a", 0, 0, 1, "1")
+            + Lines.person("y", "a", 0, 0, 0, "0"));
         chance(x, 0, 0, 1, 1);
         x.give(0, 1);
         chance(x, 0, 0, 1, 1);
@@ -83,8 +74,8 @@ public final class WouldBeTest {
     }
 
     private static void lateChances() {
-        String text = "place a noon 0;place b noon 0;road a b minutes 65;law lot;" + thing("s", "b", 1, 0, 0)
-            + person("x", "a", 0, 0, 0, "1") + person("y", "b", 0, 0, 0, "1");
+        String text = "place a noon 0;place b noon 0;road a b minutes 65;law lot;" + Lines.thing("s", "b", 1, 0, 0)
+            + Lines.person("x", "a", 0, 0, 0, "1") + Lines.person("y", "b", 0, 0, 0, "1");
         NoonSquare x = Due.valley(text + "late 30;");
         chance(x, 0, 0, 3, 20);
         chance(x, 0, 1, 17, 20);
@@ -95,15 +86,15 @@ public final class WouldBeTest {
         x = Due.valley(text);
         chance(x, 0, 0, 0, 1);
         chance(x, 0, 1, 1, 1);
-        x = Due.valley("place a noon 0;place b noon 0;road a b minutes 65;late 7;" + thing("s", "b", 1, 0, 0)
-            + person("x", "a", 0, 0, 0, "1"));
+        x = Due.valley("place a noon 0;place b noon 0;road a b minutes 65;late 7;" + Lines.thing("s", "b", 1, 0, 0)
+            + Lines.person("x", "a", 0, 0, 0, "1"));
         chance(x, 0, 0, 7, 100);
         chance(x, 0, -1, 93, 100);
     }
 
     private static void rests() {
-        NoonSquare x = Due.valley("place a noon 0;place b noon 0;road a b minutes 9;" + thing("s", "a", 80, 0, 0)
-            + thing("t", "b", 50, 0, 0) + person("x", "b", 0, 10, 0, "0") + person("y", "a", 0, 20, 0, "0"));
+        NoonSquare x = Due.valley("place a noon 0;place b noon 0;road a b minutes 9;" + Lines.thing("s", "a", 80, 0, 0)
+            + Lines.thing("t", "b", 50, 0, 0) + Lines.person("x", "b", 0, 10, 0, "0") + Lines.person("y", "a", 0, 20, 0, "0"));
         due.is("near: each by his own", x.rest(0), 1);
         due.is("its pay", x.rest(1), 130);
         due.is("none lost", x.rest(2), 0);
@@ -115,8 +106,8 @@ public final class WouldBeTest {
         due.is("stands(0, -1)", x.stands(0, -1), -3);
         due.is("rest(3)", x.rest(3), -1);
         due.is("rest(-1)", x.rest(-1), -1);
-        x = Due.valley("place a noon 0;place b noon 0;" + thing("s", "a", 80, 0, 0) + person("x", "a", 0, 0, 0, "0")
-            + person("y", "a", 0, 0, 0, "0") + person("z", "b", 0, 0, 0, "0"));
+        x = Due.valley("place a noon 0;place b noon 0;" + Lines.thing("s", "a", 80, 0, 0) + Lines.person("x", "a", 0, 0, 0, "0")
+            + Lines.person("y", "a", 0, 0, 0, "0") + Lines.person("z", "b", 0, 0, 0, "0"));
         due.is("of like ones the first has it: y by s or by none", x.rest(0), 2);
         due.is("the most pay", x.rest(1), 80);
         due.is("the least lost", x.rest(2), 0);
@@ -124,8 +115,8 @@ public final class WouldBeTest {
         due.is("row 1 of y: none, the last", x.stands(1, 1), -1);
         due.is("z reaches nothing", x.stands(0, 2), -1);
         due.is("x in row 1", x.stands(1, 0), 0);
-        x = Due.valley("law force;place a noon 0;" + thing("s", "a", 80, 0, 0) + thing("t", "a", 30, 0, 0)
-            + person("x", "a", 0, 10, 0, "0") + person("y", "a", 0, 20, 0, "0"));
+        x = Due.valley("law force;place a noon 0;" + Lines.thing("s", "a", 80, 0, 0) + Lines.thing("t", "a", 30, 0, 0)
+            + Lines.person("x", "a", 0, 10, 0, "0") + Lines.person("y", "a", 0, 20, 0, "0"));
         due.is("force: one row", x.rest(0), 1);
         due.is("the strong one by s", x.stands(0, 1), 0);
         due.is("the other by t", x.stands(0, 0), 1);
@@ -133,8 +124,8 @@ public final class WouldBeTest {
     }
 
     private static void order() {
-        NoonSquare x = Due.valley("law lot;place a noon 0;" + thing("s", "a", 10, 0, 0) + thing("t", "a", 10, 0, 0)
-            + person("x", "a", 0, 0, 0, "0") + person("y", "a", 0, 0, 0, "0"));
+        NoonSquare x = Due.valley("law lot;place a noon 0;" + Lines.thing("s", "a", 10, 0, 0) + Lines.thing("t", "a", 10, 0, 0)
+            + Lines.person("x", "a", 0, 0, 0, "0") + Lines.person("y", "a", 0, 0, 0, "0"));
         due.is("one by each", x.rest(0), 2);
         due.is("row 0: the first person's choice is counted up last", x.stands(0, 0), 0);
         due.is("row 0 of y", x.stands(0, 1), 1);
@@ -143,8 +134,8 @@ public final class WouldBeTest {
     }
 
     private static void restByLot() {
-        NoonSquare x = Due.valley("law lot;place a noon 0;" + thing("s", "a", 35, 20, 0) + person("x", "a", 0, 0, 9, "0")
-            + person("y", "a", 0, 0, 0, "0") + person("z", "a", 0, 0, 0, "0"));
+        NoonSquare x = Due.valley("law lot;place a noon 0;" + Lines.thing("s", "a", 35, 20, 0) + Lines.person("x", "a", 0, 0, 9, "0")
+            + Lines.person("y", "a", 0, 0, 0, "0") + Lines.person("z", "a", 0, 0, 0, "0"));
         due.is("all by it", x.rest(0), 1);
         due.is("35 / 3 each, cut", x.rest(1), 33);
         due.is("all but one lost", x.rest(2), 2);
@@ -157,7 +148,7 @@ public final class WouldBeTest {
         due.is("no pay", x.rest(1), 0);
         due.is("none lost by standing by none", x.rest(2), 0);
         x = Due.valley("law lot;place a noon 0;place b noon 0;thing f at a worth 5 wear 0 heavy 0 food;"
-            + thing("t", "b", 9, 0, 0) + person("x", "a", 0, 0, 9, "0"));
+            + Lines.thing("t", "b", 9, 0, 0) + Lines.person("x", "a", 0, 0, 9, "0"));
         due.is("by f alone, t is out of reach", x.rest(0), 1);
         due.is("f", x.stands(0, 0), 0);
         x.give(0, 0);
@@ -167,35 +158,35 @@ public final class WouldBeTest {
     }
 
     private static void restOfHeavyThings() {
-        NoonSquare x = Due.valley("place a noon 0;" + thing("s", "a", 50, 0, 30) + person("x", "a", 0, 20, 0, "0"));
+        NoonSquare x = Due.valley("place a noon 0;" + Lines.thing("s", "a", 50, 0, 30) + Lines.person("x", "a", 0, 20, 0, "0"));
         due.is("who can't take has no pay, by it or not", x.rest(0), 2);
         due.is("no pay", x.rest(1), 0);
         x.give(0, 0);
         due.is("what stays his pays nothing by law", x.rest(0), 2);
         due.is("pay", x.rest(1), 0);
-        x = Due.valley("place a noon 0;place b noon 0;road a b minutes 60;" + thing("s", "b", 50, 0, 30)
-            + person("x", "a", 0, 20, 0, "0") + person("y", "a", 0, 40, 0, "0"));
+        x = Due.valley("place a noon 0;place b noon 0;road a b minutes 60;" + Lines.thing("s", "b", 50, 0, 30)
+            + Lines.person("x", "a", 0, 20, 0, "0") + Lines.person("y", "a", 0, 40, 0, "0"));
         due.is("y takes it, x stands by it or not", x.rest(0), 2);
         due.is("least lost", x.rest(2), 0);
         due.is("60 minutes are in time", x.stands(0, 1), 0);
-        x = Due.valley("place a noon 0;place b noon 0;road a b minutes 61;" + thing("s", "b", 50, 0, 0)
-            + person("x", "a", 0, 20, 0, "0") + "late 100;");
+        x = Due.valley("place a noon 0;place b noon 0;road a b minutes 61;" + Lines.thing("s", "b", 50, 0, 0)
+            + Lines.person("x", "a", 0, 20, 0, "0") + "late 100;");
         due.is("61 are not, however late the bell", x.stands(0, 0), -1);
     }
 
     private static void spent() {
-        String people = person("x", "a", 0, 0, 0, "0") + person("y", "a", 0, 0, 0, "0") + person("z", "a", 0, 0, 0, "0")
-            + person("u", "a", 0, 0, 0, "0") + person("v", "a", 0, 0, 0, "0");
+        String people = Lines.person("x", "a", 0, 0, 0, "0") + Lines.person("y", "a", 0, 0, 0, "0") + Lines.person("z", "a", 0, 0, 0, "0")
+            + Lines.person("u", "a", 0, 0, 0, "0") + Lines.person("v", "a", 0, 0, 0, "0");
         StringBuilder text = new StringBuilder("place a noon 0;" + people);
         for (char c = 'a'; c < 'g'; c++) {
-            text.append(thing("" + c, "a", 1, 0, 0));
+            text.append(Lines.thing("" + c, "a", 1, 0, 0));
         }
         NoonSquare x = Due.valley(text.toString());
         due.is("7 to the power of 5 is 16,807", x.rest(0), 6 * 5 * 4 * 3 * 2);
         due.is("each has one", x.rest(1), 5);
         due.is("row 719", x.stands(719, 0), 5);
         due.is("row 720", x.stands(720, 0), -3);
-        x = Due.valley(text + thing("g", "a", 1, 0, 0));
+        x = Due.valley(text + Lines.thing("g", "a", 1, 0, 0));
         for (int what = 0; what < 3; what++) {
             due.is("8 to the power of 5: rest(" + what + ")", x.rest(what), -2);
         }
@@ -217,8 +208,8 @@ public final class WouldBeTest {
     }
 
     private static void made() {
-        NoonSquare x = Due.valley("place a noon 0;" + thing("s", "a", 50, 10, 0) + person("x", "a", 0, 10, 1, "1")
-            + person("y", "a", 0, 20, 5, "1"));
+        NoonSquare x = Due.valley("place a noon 0;" + Lines.thing("s", "a", 50, 10, 0) + Lines.person("x", "a", 0, 10, 1, "1")
+            + Lines.person("y", "a", 0, 20, 5, "1"));
         due.is("made(0, 0)", x.made(0, 0), 0);
         due.is("nobody's on the first day", x.made(1, 0), 0);
         due.is("near: x, on the second and third", x.made(3, 0), 50 + 49);
@@ -255,16 +246,16 @@ public final class WouldBeTest {
     }
 
     private static void laws() {
-        NoonSquare x = Due.valley("law lot;place a noon 0;" + thing("s", "a", 50, 10, 0) + person("x", "a", 0, 10, 1, "1")
-            + person("y", "a", 0, 20, 5, "1"));
+        NoonSquare x = Due.valley("law lot;place a noon 0;" + Lines.thing("s", "a", 50, 10, 0) + Lines.person("x", "a", 0, 10, 1, "1")
+            + Lines.person("y", "a", 0, 20, 5, "1"));
         due.is("of like ones the first", x.law(1), 0);
         due.is("by force most is made", x.law(5), 1);
         due.is("law(0)", x.law(0), 0);
         due.is("law(40)", x.law(40) >= 0 ? 1 : 0, 1);
         due.is("law(41)", x.law(41), -1);
         due.is("law(-1)", x.law(-1), -1);
-        x = Due.valley("place a noon 0;" + thing("s", "a", 50, 0, 0) + person("x", "a", 0, 30, 1, "1")
-            + person("y", "a", 0, 20, 5, "1"));
+        x = Due.valley("place a noon 0;" + Lines.thing("s", "a", 50, 0, 0) + Lines.person("x", "a", 0, 30, 1, "1")
+            + Lines.person("y", "a", 0, 20, 5, "1"));
         due.is("x by near and by force", x.made(2, 1) + x.made(2, 2), 100);
         x.seed(1);
         int drawn = (1103527590 >>> 16) % 2;
@@ -275,8 +266,8 @@ public final class WouldBeTest {
     }
 
     private static void used() {
-        NoonSquare x = Due.valley("place a noon 0;" + thing("s", "a", 50, 10, 0) + "thing f at a worth 10 wear 0 heavy 0 food;"
-            + thing("t", "a", 99, 20, 0) + thing("u", "a", 0, 20, 0) + person("x", "a", 0, 0, 9, "0"));
+        NoonSquare x = Due.valley("place a noon 0;" + Lines.thing("s", "a", 50, 10, 0) + "thing f at a worth 10 wear 0 heavy 0 food;"
+            + Lines.thing("t", "a", 99, 20, 0) + Lines.thing("u", "a", 0, 20, 0) + Lines.person("x", "a", 0, 0, 9, "0"));
         due.is("one day: as hard as can be", x.used(0, 1, 100, 0), 9);
         due.is("50 * 100 * 9 * 10", x.used(0, 1, 100, 1), 450000);
         due.is("two days", x.used(0, 2, 100, 1), 450000 + 409500);
@@ -291,7 +282,7 @@ public final class WouldBeTest {
         due.is("thirty days", x.used(2, 30, 100, 1), best(99, 100, 20, 30, 100)[1]);
         due.is("thirty days, how hard", x.used(2, 30, 100, 0), best(99, 100, 20, 30, 100)[0]);
         due.is("thirty days without wear go beyond 2^31 hundredths", Due.valley("place a noon 0;"
-            + thing("s", "a", 99, 0, 0)).used(0, 30, 100, 1), 30 * 891000);
+            + Lines.thing("s", "a", 99, 0, 0)).used(0, 30, 100, 1), 30 * 891000);
         due.is("used(4, 1, 1, 0)", x.used(4, 1, 1, 0), -1);
         due.is("used(-1, 1, 1, 0)", x.used(-1, 1, 1, 0), -1);
         due.is("used(0, 0, 1, 0)", x.used(0, 0, 1, 0), -1);
@@ -327,8 +318,8 @@ public final class WouldBeTest {
     }
 
     private static void keeps() {
-        NoonSquare x = Due.valley("place a noon 0;" + thing("s", "a", 50, 0, 0) + thing("t", "a", 40, 0, 0)
-            + "thing f at a worth 9 wear 0 heavy 0 food;" + person("x", "a", 0, 0, 1, "worth") + person("y", "a", 0, 0, 1, "worth+mine*3"));
+        NoonSquare x = Due.valley("place a noon 0;" + Lines.thing("s", "a", 50, 0, 0) + Lines.thing("t", "a", 40, 0, 0)
+            + "thing f at a worth 9 wear 0 heavy 0 food;" + Lines.person("x", "a", 0, 0, 1, "worth") + Lines.person("y", "a", 0, 0, 1, "worth+mine*3"));
         due.is("nobody's", x.keeps(0), -1);
         x.give(0, 1);
         due.is("ten less: x takes s still, of like ones the first; eleven less", x.keeps(0), 11);
@@ -344,27 +335,27 @@ public final class WouldBeTest {
         due.is("eaten", x.keeps(2), -1);
         due.is("keeps(3)", x.keeps(3), -1);
         due.is("keeps(-1)", x.keeps(-1), -1);
-        x = Due.valley("law lot;place a noon 0;" + thing("s", "a", 50, 0, 0) + person("x", "a", 0, 0, 1, "worth-20")
-            + person("y", "a", 0, 0, 1, "1"));
+        x = Due.valley("law lot;place a noon 0;" + Lines.thing("s", "a", 50, 0, 0) + Lines.person("x", "a", 0, 0, 1, "worth-20")
+            + Lines.person("y", "a", 0, 0, 1, "1"));
         x.give(0, 1);
         due.is("by lot y is sure of it if he is alone", x.keeps(0), 30);
-        x = Due.valley("place a noon 0;place b noon 0;road a b minutes 65;late 1;" + thing("s", "b", 50, 0, 0)
-            + person("x", "a", 0, 0, 1, "worth-20") + person("y", "b", 0, 0, 1, "worth>9"));
+        x = Due.valley("place a noon 0;place b noon 0;road a b minutes 65;late 1;" + Lines.thing("s", "b", 50, 0, 0)
+            + Lines.person("x", "a", 0, 0, 1, "worth-20") + Lines.person("y", "b", 0, 0, 1, "worth>9"));
         x.give(0, 1);
         due.is("near: y is nearer, late or not", x.keeps(0), 0);
-        x = Due.valley("law force;place a noon 0;place b noon 0;road a b minutes 65;late 1;" + thing("s", "b", 50, 0, 0)
-            + person("x", "a", 0, 9, 1, "worth-20") + person("y", "b", 0, 0, 1, "worth>9"));
+        x = Due.valley("law force;place a noon 0;place b noon 0;road a b minutes 65;late 1;" + Lines.thing("s", "b", 50, 0, 0)
+            + Lines.person("x", "a", 0, 9, 1, "worth-20") + Lines.person("y", "b", 0, 0, 1, "worth>9"));
         x.give(0, 1);
         due.is("force: one day of a hundred x is in time", x.keeps(0), 30);
-        x = Due.valley("place a noon 0;" + thing("s", "a", 50, 0, 9) + person("x", "a", 0, 0, 1, "0"));
+        x = Due.valley("place a noon 0;" + Lines.thing("s", "a", 50, 0, 9) + Lines.person("x", "a", 0, 0, 1, "0"));
         x.give(0, 0);
         due.is("too heavy for all", x.keeps(0), 0);
     }
 
     private static void lifts() {
-        NoonSquare x = Due.valley("place a noon 0;" + thing("s", "a", 50, 0, 30) + thing("t", "a", 50, 0, 31)
-            + thing("u", "a", 50, 0, 50) + thing("v", "a", 50, 0, 51) + thing("w", "a", 50, 0, 0)
-            + person("x", "a", 0, 20, 1, "0") + person("y", "a", 0, 30, 1, "0") + person("z", "a", 0, 0, 1, "0"));
+        NoonSquare x = Due.valley("place a noon 0;" + Lines.thing("s", "a", 50, 0, 30) + Lines.thing("t", "a", 50, 0, 31)
+            + Lines.thing("u", "a", 50, 0, 50) + Lines.thing("v", "a", 50, 0, 51) + Lines.thing("w", "a", 50, 0, 0)
+            + Lines.person("x", "a", 0, 20, 1, "0") + Lines.person("y", "a", 0, 30, 1, "0") + Lines.person("z", "a", 0, 0, 1, "0"));
         due.is("above each, not above both", x.lift(0, 1), 2 + 4);
         due.is("the other way", x.lift(1, 0), 2 + 4);
         due.is("with a weak one", x.lift(1, 2), 0);
@@ -377,8 +368,8 @@ public final class WouldBeTest {
     private static void tours() {
         NoonSquare x = Due.valley("place a noon 20;place b noon 0;place c noon 10;place d noon 30;place e noon 40;"
             + "road a b minutes 60;road b c minutes 10;road c a minutes 11;road c d minutes 20;road d e minutes 9;"
-            + thing("s", "b", 1, 0, 0) + thing("t", "c", 1, 0, 0) + "thing f at d worth 1 wear 0 heavy 0 food;"
-            + thing("u", "a", 1, 0, 0) + person("x", "a", 0, 0, 1, "0") + person("y", "e", 0, 0, 1, "0"));
+            + Lines.thing("s", "b", 1, 0, 0) + Lines.thing("t", "c", 1, 0, 0) + "thing f at d worth 1 wear 0 heavy 0 food;"
+            + Lines.thing("u", "a", 1, 0, 0) + Lines.person("x", "a", 0, 0, 1, "0") + Lines.person("y", "e", 0, 0, 1, "0"));
         due.is("b, c, d; e has no thing; c to a is too far", x.tour(0), 3);
         due.is("from e: d, or c and d, or b, c and d", x.tour(1), 3);
         x.give(2, 0);
@@ -386,18 +377,18 @@ public final class WouldBeTest {
         due.is("the food of d is eaten", x.tour(0), 2);
         due.is("tour(2)", x.tour(2), -1);
         due.is("tour(-1)", x.tour(-1), -1);
-        x = Due.valley("place a noon 0;place b noon 0;road a b minutes 1;" + thing("s", "a", 1, 0, 0)
-            + thing("t", "a", 1, 0, 0) + thing("u", "b", 1, 0, 0) + person("x", "a", 0, 0, 1, "0"));
+        x = Due.valley("place a noon 0;place b noon 0;road a b minutes 1;" + Lines.thing("s", "a", 1, 0, 0)
+            + Lines.thing("t", "a", 1, 0, 0) + Lines.thing("u", "b", 1, 0, 0) + Lines.person("x", "a", 0, 0, 1, "0"));
         due.is("unlike places, one noon", x.tour(0), 1);
-        x = Due.valley("place a noon 0;place b noon 0;road a b minutes 61;late 100;" + thing("u", "b", 1, 0, 0)
-            + person("x", "a", 0, 0, 1, "0"));
+        x = Due.valley("place a noon 0;place b noon 0;road a b minutes 61;late 100;" + Lines.thing("u", "b", 1, 0, 0)
+            + Lines.person("x", "a", 0, 0, 1, "0"));
         due.is("not late", x.tour(0), 0);
     }
 
     private static void leaves() {
         NoonSquare x = Due.valley("law lot;late 50;place a noon 0;place b noon 5;road a b minutes 3;"
-            + thing("s", "a", 50, 9, 0) + thing("t", "b", 20, 9, 10) + "thing f at b worth 9 wear 0 heavy 0 food;"
-            + person("x", "a", 3, 20, 5, "worth*left") + person("y", "b", 2, 10, 4, "100-far"));
+            + Lines.thing("s", "a", 50, 9, 0) + Lines.thing("t", "b", 20, 9, 10) + "thing f at b worth 9 wear 0 heavy 0 food;"
+            + Lines.person("x", "a", 3, 20, 5, "worth*left") + Lines.person("y", "b", 2, 10, 4, "100-far"));
         x.run(3);
         x.give(2, 0);
         int before = sum(x);
