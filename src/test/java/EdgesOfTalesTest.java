@@ -6,6 +6,7 @@ public final class EdgesOfTalesTest {
 
     public static void main(String[] args) {
         nobody();
+        manyCalls();
         keptOwners();
         daysOneBehindTheOther();
         since();
@@ -45,6 +46,18 @@ public final class EdgesOfTalesTest {
         due.is("odds of nobody", x.chance(0, NoonSquare.NONE, 0), 1);
         due.is("a tale of nobody", x.tale(1, 0, NoonSquare.NONE), 0);
         due.is("there is none", x.back(0), NoonSquare.NONE);
+    }
+
+    private static void manyCalls() {
+        due.quote("An object is used for at most 512 calls after it has been made;");
+        NoonSquare x = new NoonSquare();
+        for (int call = 1; call <= 512; call++) {
+            if (call % 100 == 0) {
+                due.is("call " + call, x.run(100), 0);
+            } else {
+                due.is("call " + call, x.about(4), call / 100 * 100);
+            }
+        }
     }
 
     private static void keptOwners() {

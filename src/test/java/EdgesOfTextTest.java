@@ -19,7 +19,11 @@ public final class EdgesOfTextTest {
         sums();
         terms();
         units();
+        everyByte();
         tokens();
+        blanks();
+        longTokens();
+        lettersBehindNumbers();
         names();
         places();
         roads();
@@ -222,7 +226,6 @@ public final class EdgesOfTextTest {
     }
 
     private static void tokens() {
-        everyByte();
         due.quote("TOKENS: words (a .. z, 8 at most), N (1 to 4 digits), signs ; ( ) < > = + - *;");
         for (int size = 1; size <= 20; size++) {
             String word = Lines.times(size, "q");
@@ -245,6 +248,9 @@ public final class EdgesOfTextTest {
         due.marked(1, P + "^12345;");
         due.marked(1, "place q^Q noon 5;");
         due.marked(1, "place q^_ noon 5;");
+    }
+
+    private static void blanks() {
         due.quote("blanks (32, 10) part them or not;");
         due.fits("place a noon5;law lot;late5;", 0);
         due.fits("\n place \n a\nnoon  5\n\n; ", 0);
@@ -253,6 +259,9 @@ public final class EdgesOfTextTest {
         due.marked(1, "place a^\tnoon 5;");
         due.marked(1, "place a^\r\nnoon 5;");
         due.marked(1, "place a noon 5;^\u00a0");
+    }
+
+    private static void longTokens() {
         due.quote("each is as long as can be;");
         due.marked(2, "^placea noon 5;");
         due.marked(2, "place a ^noons 5;");
@@ -260,6 +269,9 @@ public final class EdgesOfTextTest {
         due.fits("place aa noon 5;place a noon 5;", 0);
         due.is("55 is one number", Due.valley(AB + "thing t at a worth55 wear1 heavy1;").thing(0, 5), 55);
         due.marked(4, "place a noon ^555;");
+    }
+
+    private static void lettersBehindNumbers() {
         due.quote("no letter directly behind an N.");
         due.fits("place a noon5;", 0);
         due.fits(P + "5 or 5;", 1);
@@ -662,6 +674,7 @@ public final class EdgesOfTextTest {
         due.quote("The TAPE (empty then) is the VALLEY (no DAYS, TALES are none, BOXES are empty then; w, the TIME stay)");
         String[] texts = {"", Lines.place("b", 5) + Lines.place("a", 3),
             P + "1+far*2;" + Lines.thing("t", "b", 5, 5, 0) + Lines.thing("s", "a", 4, 5, 0),
+            P + "1;" + Lines.person("q", "a", 1, 9, 9, "1") + Lines.thing("t", "a", 5, 5, 0),
             "law near;" + P + "1;" + Lines.thing("t", "a", 5, 5, 0), "law lot;late 100;" + P + "1;" + Lines.thing("t", "a", 5, 5, 0)};
         for (String text : texts) {
             NoonSquare x = full();

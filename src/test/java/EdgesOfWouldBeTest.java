@@ -742,6 +742,10 @@ public final class EdgesOfWouldBeTest {
         NoonSquare x = Due.valley(A + Lines.things(2, 1) + Lines.people(2, "0"));
         due.is("tour(0)", x.tour(0), 1);
         due.is("tour(1)", x.tour(1), 1);
+        x = Due.valley(Lines.places(2, 0) + Lines.things(1, 1) + Lines.people(1, "0") + Lines.person("z", "b", 0, 0, 0, "0"));
+        due.is("one who reaches a noon", x.tour(0), 1);
+        due.is("then one who reaches none", x.tour(1), 0);
+        x = Due.valley(A + Lines.things(2, 1) + Lines.people(2, "0"));
         for (int none : NONE_OF_TWO) {
             due.is("tour(" + none + ")", x.tour(none), -1);
         }
