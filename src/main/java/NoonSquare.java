@@ -1739,17 +1739,17 @@ public final class NoonSquare {
             int sum = 0;
             for (int thing = 0; thing < valley.things; thing++) {
                 int crowd = 0;
-                boolean hasTaker = false;
-                boolean ownerIsBy = false;
+                boolean oneHasIt = false;
                 for (int person = 0; person < valley.people; person++) {
                     if (choice[person] == thing) {
                         crowd++;
-                        hasTaker |= valley.isTaker(person, thing);
-                        ownerIsBy |= now.owner[thing] == person;
+                        // What nobody takes stays whose it is, so its owner loses nothing by it.
+                        if (valley.isTaker(person, thing) || now.owner[thing] == person) {
+                            oneHasIt = true;
+                        }
                     }
                 }
-                // What nobody takes stays whose it is, so its owner loses nothing by it.
-                sum += hasTaker || ownerIsBy ? crowd - 1 : crowd;
+                sum += oneHasIt ? crowd - 1 : crowd;
             }
             return sum;
         }

@@ -49,7 +49,7 @@ public final class EdgesOfTalesTest {
     }
 
     private static void manyCalls() {
-        due.quote("An object is used for at most 512 calls after it has been made;");
+        due.quote("An object is used for at most 512 calls after it has been made; what later calls answer is free.");
         NoonSquare x = new NoonSquare();
         for (int call = 1; call <= 512; call++) {
             if (call % 100 == 0) {

@@ -24,6 +24,7 @@ public final class LanguageTest {
 
     public static void main(String[] args) throws Exception {
         face();
+        faceOfTheDocument();
         classes();
         words();
         room();
@@ -47,10 +48,30 @@ public final class LanguageTest {
         due.yes("public and final", (NoonSquare.class.getModifiers() & (Modifier.PUBLIC | Modifier.FINAL))
             == (Modifier.PUBLIC | Modifier.FINAL));
         due.is("constructors", NoonSquare.class.getDeclaredConstructors().length, 1);
+        due.is("public constructors", NoonSquare.class.getConstructors().length, 1);
         for (Field field : NoonSquare.class.getDeclaredFields()) {
             boolean isNone = field.getName().equals("NONE");
             due.yes(field + " is as it should be", isNone == !Modifier.isPrivate(field.getModifiers()));
         }
+    }
+
+    /** The face as the document writes it out, where it can be read. */
+    private static void faceOfTheDocument() {
+        String text = Document.text();
+        if (text.isEmpty()) {
+            return;
+        }
+        String face = text.substring(text.indexOf("```java"), text.indexOf("## Terms"));
+        TreeSet<String> told = new TreeSet<>();
+        Matcher method = Pattern.compile("public (int|boolean) (\\w+)\\(([^)]*)\\);").matcher(face);
+        while (method.find()) {
+            told.add(method.group(2) + "(" + method.group(3).replaceAll("int \\w+", "int").replace(", ", ",") + ")"
+                + method.group(1));
+        }
+        due.yes("the methods that the document tells: " + told, String.join(" ", told).equals(FACE));
+        due.yes("the class", face.contains("public final class NoonSquare {") && face.contains("public NoonSquare();"));
+        due.is("public things of the face", face.split("public ").length - 1, told.size() + 3);
+        due.yes("the constant", face.contains("public static final int NONE = -1;") && NoonSquare.NONE == -1);
     }
 
     private static List<Class<?>> all() {
